@@ -633,7 +633,7 @@ public final class DeadWires {
                 kind = NUMBER;
                 value = 0;
                 while (place < length && bytes[place] >= '0' && bytes[place] <= '9') {
-                    value = Math.min(HUGE, value * 10 + bytes[place] - '0');
+                    value = value >= HUGE ? HUGE : value * 10 + bytes[place] - '0';
                     place++;
                 }
             } else if (kind >= 'a' && kind <= 'z') {

@@ -5,6 +5,7 @@ public final class KeepTest {
     public static void main(String[] args) {
         images();
         worksInImages();
+        fullShelf();
         refusedBehindRestore();
         status();
         counts();
@@ -61,6 +62,29 @@ public final class KeepTest {
         Check.due("hour", w.told(4), 0);
         Check.due("cut", w.told(6), 0);
         Check.due("none", w.undo(), -1);
+    }
+
+    private static void fullShelf() {
+        DeadWires w = Check.land(LAND);
+        for (int i = 1; i <= 16; i++) {
+            Check.due("work", Check.work(w, "hour;"), 1);
+        }
+        for (int i = 1; i <= 3; i++) {
+            Check.due("image", w.image(), i);
+            Check.due("undo", w.undo(), 16 - i);
+        }
+        Check.due("hour", w.told(4), 13);
+        for (int i = 2; i >= 0; i--) {
+            Check.due("restore", w.restore(), i);
+            Check.due("works", w.count(2), 16 - i);
+            Check.due("hour", w.told(4), 16 - i);
+        }
+        w.feed(0, 0, 0, 0, 0);
+        Check.due("full again", w.work(0), -20);
+        for (int i = 15; i >= 0; i--) {
+            Check.due("undo", w.undo(), i);
+            Check.due("hour", w.told(4), i);
+        }
     }
 
     private static void refusedBehindRestore() {

@@ -164,6 +164,8 @@ public final class QuestionsTest {
         Check.book(w, "4 4;2 1;3 1;");
         Check.due("in 3 not yet", w.fits(0), 2);
         Check.due("first", w.fits(1), 2);
+        Check.book(w, "4 4;2 1;3 1;5 4;6 4;7 4;8 4;9 5;");
+        Check.due("eight lines", w.fits(0), 2);
         Check.book(w, "0 9;");
         Check.due("none", w.fits(0), 0);
         Check.due("none", w.fits(1), -1);

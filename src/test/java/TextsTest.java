@@ -126,6 +126,7 @@ public final class TextsTest {
         fault("pliers 1;".repeat(60) + " nothing", 1, 541);
         fault("pliers 1;".repeat(60) + "7", 1, 540);
         Check.due("60 and blanks", country("pliers 1;".repeat(60) + "   "), 0);
+        Check.due("600 bytes", country("pliers  1;".repeat(60)), 0);
         String wires = "fields 6;wire 0 1 1;wire 0 2 1;wire 0 3 1;wire 0 4 1;wire 0 5 1;wire 1 2 1;wire 1 3 1;"
                 + "wire 1 4 1;wire 1 5 1;wire 2 3 1;wire 2 4 1;wire 2 5 1;";
         Check.due("12 wires", country(wires), 12);
@@ -200,6 +201,11 @@ public final class TextsTest {
         law("((((((6))))))", 6);
         law("(((least[most[(8),1],9])))", 8);
         law("((((((1))))))+((((((2))))))", 3);
+        law("least[1,(((((2)))))]", 1);
+        law("1+".repeat(20) + "0", 20);
+        law("9-" + "0+".repeat(73) + "5", 14);
+        law("1+1*(1+1*(1+1*(1+1*(1+1*(1+1*(1+1*3)))))" + ")", 10);
+        law(" ".repeat(149) + "8", 8);
         law("  007  ", 7);
         law("load+strong/3-tired", 25);
         // 64 * 64 * 64 * 64 * 256 and 5 more wraps to 5
@@ -249,6 +255,8 @@ public final class TextsTest {
         lawFault("least[least[least[least[least[least[ most", 3, 37);
         lawFault("((((((1)))))) + (((((((", 3, 22);
         lawFault("load\n", 1, 4);
+        lawFault("least[1,((((((2))))))]", 3, 13);
+        lawFault("most[((((((1)))))),2]", 3, 10);
     }
 
     private static void lawKeeps() {
@@ -328,6 +336,7 @@ public final class TextsTest {
         workFault("again [];", 1, 6);
         workFault("hour;again 1[again 1[again 1[again 1[again 1[again 1[ again 9", 3, 54);
         DeadWires w = Check.land(LAND);
+        Check.due("150 bytes", Check.work(w, "cut 0;".repeat(25)), 1);
         Check.due("six deep", Check.work(w, "again 1[".repeat(6) + "hour;" + "];".repeat(6)), 1);
         Check.due("six deep, twice", Check.work(w, ("again 1[".repeat(6) + "];".repeat(6)).concat("again 1[hour;];")), 1);
     }
@@ -348,6 +357,9 @@ public final class TextsTest {
         book(eight, 8, -1);
         book(eight + "8 0;", -7, 32);
         book(eight + " 8", -7, 33);
+        book(eight + "40 0;", -7, 32);
+        book(eight + " ".repeat(28), 8, -1);
+        book("10 10 ;" + " ".repeat(50) + "9 9", -9, 60);
         book(eight + "7 0;", -8, 32);
         book(eight + "41 0;", -8, 32);
         book(eight + "x", -9, 32);
