@@ -428,13 +428,14 @@ public final class DeadWires {
         need(within(many, 1, 20) && within(q, 0, 16) && within(hours, 1, 96));
         needWhat(what, 2);
         need(within(person, 0, land.persons - 1));
-        int fewest = Integer.MAX_VALUE;
+        int fewest = 0;
         int most = 0;
         int elsewhere = 0;
         for (int i = 0; i < many; i++) {
             autumns.go(seed + i, q, hours);
-            fewest = Math.min(fewest, autumns.crossings());
-            most = Math.max(most, autumns.crossings());
+            int crossings = autumns.crossings();
+            fewest = i == 0 ? crossings : Math.min(fewest, crossings);
+            most = Math.max(most, crossings);
             elsewhere += autumns.isElsewhere(person) ? 1 : 0;
         }
         if (what == 0) {
