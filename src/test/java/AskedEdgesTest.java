@@ -265,6 +265,8 @@ public final class AskedEdgesTest {
         }
         DeadWires six = Check.land("fields 1;thing 0 6;thing 0 6;thing 0 6;thing 0 6;thing 0 6;thing 0 6;person 0 36;");
         Check.due("all six", six.haul(0, 1), 63);
+        DeadWires one = Check.land("fields 1;thing 0 1;person 0 1;");
+        Check.due("of weight 1", one.haul(0, 1), 1);
     }
 
     private static void haulLeastBits() {
@@ -355,6 +357,10 @@ public final class AskedEdgesTest {
         Check.book(w, "30 11;40 11;");
         Check.due("the last wire by 11 on", w.fits(1), 1111);
         Check.due("ten", w.fits(0), 10);
+        DeadWires two = Check.land("fields 3;wire 0 1 5;wire 1 2 6;");
+        Check.book(two, "24 1;");
+        Check.due("the first by 20, the second by 19, 20", two.fits(0), 3);
+        Check.due("first by wire, then by N", two.fits(1), 20);
     }
 
     // "LOOK: the K (0 to 40) in no line by which, however many are LIVE then, fewest such pairs are left at the worst,

@@ -49,6 +49,8 @@ public final class CallsEdgesTest {
         restore();
         status();
         count();
+        fullCountry();
+        smallerBehindTheFull();
         Check.end();
     }
 
@@ -216,6 +218,11 @@ public final class CallsEdgesTest {
         Check.due("none refused", w.told(10), 0);
         Check.due("restore", w.restore(), -1);
         Check.due("undo", w.undo(), -1);
+        DeadWires longest = new DeadWires();
+        Check.due("a law as long as may be", Check.law(longest, "9+" + "0+".repeat(73) + "2"), 1);
+        Check.due("by it", longest.would(8, 1, 0, 0, 0, 0, 0), 11);
+        longest.country(0);
+        Check.due("no law again", longest.would(8, 1, 0, 0, 0, 0, 0), 3);
         DeadWires full = Check.land("fields 2;wire 0 1 1;");
         for (int i = 0; i < 16; i++) {
             full.work(0);
@@ -389,6 +396,16 @@ public final class CallsEdgesTest {
         Check.work(w, "hour");
         Check.due("a faulty one was not done", w.undo(), 0);
         Check.due("it was the one ahead", w.told(8), 0);
+        Check.work(w, "lift 0 0;move 0 3;cross 0 0;cut 0;hour;");
+        Check.due("undone", w.undo(), 0);
+        int[] due = {2, 1, 1, 1, 0, 0, 0, 2, 0, 0, 0, 0};
+        for (int what = 0; what < due.length; what++) {
+            Check.due("told " + what + " behind it", w.told(what), due[what]);
+        }
+        Check.due("where he was", w.person(0, 1), 0);
+        Check.due("not tired", w.person(0, 2), 0);
+        Check.due("H", w.wire(0, 2), 9);
+        Check.due("where it lay", w.thing(0, 1), 0);
     }
 
     // 9: "10 STEPS REFUSED by the latest WORK (0 ahead of any, behind undo(), restore()), .. IllegalArgumentException:
@@ -409,6 +426,13 @@ public final class CallsEdgesTest {
         Check.due("one", w.told(10), 1);
         w.restore();
         Check.due("behind restore", w.told(10), 0);
+        DeadWires x = Check.land("fields 4;wire 0 1 9;wire 1 2 1;wire 2 3 2;thing 0 1;thing 0 1;person 0 9;pliers 5;");
+        Check.book(x, "1 1;4 4;");
+        Check.work(x, "lift 0 1;cross 0 0;cross 0 0;cross 0 0;hour;cut 0;cut 0;");
+        int[] due = {4, 3, 2, 1, 1, 2, 1, 4, 2, 2, 1, 3};
+        for (int what = 0; what < due.length; what++) {
+            Check.due("told " + what, x.told(what), due[what]);
+        }
     }
 
     // 10: "NoSuchElementException: no such FIELD, WIRE, THING, PERSON (so below, ahead of others)."
@@ -437,6 +461,19 @@ public final class CallsEdgesTest {
         ones("wire", 3, (w, wire) -> w.wire(wire, 0));
         whats("wire's what", 6, (w, what) -> w.wire(2, what));
         Seen.leavesMissing("wire 3, what 7", w -> w.wire(3, 7));
+        DeadWires w = Check.land("fields 3;wire 2 0 4;wire 1 2 5;");
+        Check.work(w, "move 0 7;again 4[hour;];");
+        wireIs(w, 0, 2, 0, 11, 4, 0, 0, 7);
+        wireIs(w, 1, 1, 2, 5, 5, 0, 0, 1);
+        Check.work(w, "hour;cut 0;");
+        wireIs(w, 0, 2, 0, 11, 4, 0, 1, 99);
+        wireIs(w, 1, 1, 2, 5, 5, 1, 0, 0);
+    }
+
+    private static void wireIs(DeadWires w, int wire, int... due) {
+        for (int what = 0; what < due.length; what++) {
+            Check.due("wire " + wire + " " + what, w.wire(wire, what), due[what]);
+        }
     }
 
     // 12
@@ -458,6 +495,14 @@ public final class CallsEdgesTest {
         ones("person", 2, (w, person) -> w.person(person, 0));
         whats("person's what", 4, (w, what) -> w.person(1, what));
         Seen.leavesMissing("person 2, what 5", w -> w.person(2, 5));
+        DeadWires w = Check.land("fields 2;wire 0 1 9;thing 0 4;thing 0 1;thing 0 3;person 0 9;person 0 8;");
+        Check.work(w, "lift 0 0;lift 1 1;lift 0 2;cross 0 0;");
+        int[] first = {9, 1, 2, 7, 5};
+        int[] second = {8, 0, 0, 1, 2};
+        for (int what = 0; what < 5; what++) {
+            Check.due("person 0 " + what, w.person(0, what), first[what]);
+            Check.due("person 1 " + what, w.person(1, what), second[what]);
+        }
     }
 
     // 14: "TOLL of a PERSON by a WIRE now (at its ends or not)."
@@ -771,6 +816,13 @@ public final class CallsEdgesTest {
             elsewhere += w.span(40 + i, 1, 3, 5, 2, 1);
         }
         Check.due("twenty seeds in a row", w.span(40, 20, 3, 5, 2, 1), elsewhere);
+        DeadWires alone = Check.land("fields 2;wire 0 1 99;person 0 9;");
+        Check.law(alone, "0");
+        Check.due("by an odd number of crossings elsewhere", alone.span(7, 20, 0, 5, 2, 0), 20);
+        Check.due("of one seed", alone.span(7, 1, 0, 5, 2, 0), 1);
+        Check.due("by an even number back", alone.span(7, 20, 0, 6, 2, 0), 0);
+        Check.work(alone, "cross 0 0;");
+        Check.due("elsewhere than now, not than at first", alone.span(7, 20, 0, 5, 2, 0), 20);
         Check.due("of one seed the fewest are the most", w.span(9, 1, 3, 5, 0, 0), w.span(9, 1, 3, 5, 1, 0));
         Check.due("and those of the autumn", w.span(9, 1, 3, 5, 0, 0), w.autumn(9, 3, 5, 0));
     }
@@ -807,10 +859,14 @@ public final class CallsEdgesTest {
         Check.due("no refusal", w.status(0) + w.status(1), 0);
         Check.work(w, "cross 0 0;");
         w.image();
-        Check.work(w, "cross 0 0;hour;");
+        Check.work(w, "move 0 4;cut 0;cross 0 0;hour;");
         Check.due("none left", w.restore(), 0);
         Check.due("where he was", w.person(0, 1), 1);
         Check.due("crossings", w.told(11), 1);
+        Check.due("tired", w.person(0, 2), 1);
+        Check.due("pliers", w.told(7), 2);
+        Check.due("cut", w.told(6), 0);
+        Check.due("H", w.wire(0, 2), 9);
         Check.due("works", w.count(2), 1);
         Check.due("gone", w.restore(), -1);
         Check.due("undo", w.undo(), 0);
@@ -824,11 +880,16 @@ public final class CallsEdgesTest {
             w.undo();
         }
         Check.work(w, "cut 0;");
+        Check.work(w, "cross 0 0;");
+        Check.work(w, "cross 0 0;");
         Check.due("restore", w.restore(), 0);
         Check.due("all 16", w.count(2), 16);
         Check.due("full", w.work(0), -20);
-        Check.due("undo", w.undo(), 15);
-        Check.due("hour", w.told(4), 15);
+        for (int i = 15; i >= 0; i--) {
+            Check.due("undo", w.undo(), i);
+            Check.due("hour", w.told(4), i);
+            Check.due("cut", w.told(6), 0);
+        }
     }
 
     // 40: "How many calls were refused: 0 NoSuchElementException, 1 IllegalArgumentException; NONE for others. (No IMAGE
@@ -879,5 +940,108 @@ public final class CallsEdgesTest {
         w.restore();
         Check.due("images", w.count(0), 0);
         Check.due("works of the image", w.count(2), 0);
+    }
+
+    // all at their most at once: 8 fields, 12 wires, 6 things, 5 persons, 9 pairs of pliers
+
+    private static DeadWires most() {
+        StringBuilder text = new StringBuilder("fields 8;pliers 9;");
+        for (int i = 0; i < 7; i++) {
+            text.append("wire 0 ").append(i + 1).append(' ').append(10 + i).append(';');
+        }
+        for (int i = 0; i < 5; i++) {
+            text.append("wire 1 ").append(i + 2).append(' ').append(17 + i).append(';');
+        }
+        for (int i = 1; i <= 6; i++) {
+            text.append("thing 7 ").append(i).append(';');
+        }
+        text.append("person 7 21;".repeat(5));
+        return Check.land(text.toString());
+    }
+
+    private static void fullCountry() {
+        DeadWires w = most();
+        Check.due("all live in 21", w.ahead(21, 0), 4095);
+        Check.due("all but the last in 20", w.ahead(20, 0), 2047);
+        Check.due("the last at 21", w.ahead(21, 2), 11);
+        Check.due("arrives", w.arrives(7, 6), 2);
+        Check.due("waits", w.waits(7, 6), 13);
+        Check.due("grant", w.grant(7, 6), 0);
+        Check.due("pliers", w.pliers(7, 6), 96);
+        Check.due("ground", w.ground(7, 2), 255);
+        Check.due("parts now", w.parts(0), 1);
+        Check.due("parts at 20", w.parts(20), 7);
+        Check.due("parts at 21", w.parts(21), 8);
+        Check.due("pairs", w.fits(0), 240);
+        Check.due("look", w.look(0), 16);
+        Check.due("119 and 121", w.look(1), 121);
+        Check.due("grace", w.grace(11, 4095, 999), 21);
+        Check.due("next", w.next(0), 0);
+        Check.due("harp", w.harp(1), 7);
+        Check.due("gates", w.gates(0, 2), 127);
+        Check.due("stuck", w.stuck(), 0);
+        Check.due("moved", w.moved(), 0);
+        Check.due("haul", w.haul(4, 1), 63);
+        Check.due("freest", w.freest(0), 0);
+        Check.work(w, "lift 4 0;lift 4 1;lift 4 2;lift 4 3;lift 4 4;lift 4 5;move 11 1;cut 10;cross 4 6;");
+        Check.due("all carried", w.told(8), 63);
+        Check.due("by the last", w.person(4, 4), 63);
+        Check.due("load", w.person(4, 3), 21);
+        Check.due("tired", w.person(4, 2), 6);
+        Check.due("moved the last", w.moved(), 2048);
+        Check.due("cut", w.told(6), 1024);
+        Check.due("the others", w.field(7, 1), 15);
+        Check.due("where the last thing is", w.thing(5, 1), 0);
+        Check.due("pairs without the cut one", w.fits(0), 220);
+        for (int what = 0; what < 4; what++) {
+            Check.due("autumn", w.autumn(-5, 16, 96, what) < 0 ? 1 : 0, 0);
+        }
+        Check.due("span", w.span(-5, 20, 0, 96, 2, 4) > 20 ? 1 : 0, 0);
+        Check.due("image", w.image(), 1);
+        Check.due("undo", w.undo(), 0);
+        Check.due("none carried", w.told(8), 0);
+        Check.due("restore", w.restore(), 0);
+        Check.due("all carried", w.told(8), 63);
+    }
+
+    private static void smallerBehindTheFull() {
+        DeadWires w = most();
+        Check.law(w, "20");
+        Check.book(w, "0 0;1 0;2 0;3 0;4 0;5 0;6 0;7 0;");
+        Check.work(w, "lift 0 0;lift 1 1;move 11 1;cut 0;cross 0 6;cross 1 6;cross 2 6;cross 3 6;cross 4 6;");
+        w.image();
+        DeadWires other = new DeadWires();
+        String small = "fields 2;wire 0 1 9;thing 0 3;person 1 9;person 0 9;";
+        Check.due("a smaller one", Check.country(w, small), 1);
+        Check.due("the same anew", Check.country(other, small), 1);
+        for (int what = 0; what <= 11; what++) {
+            Check.due("told " + what, w.told(what), other.told(what));
+        }
+        for (int i = 0; i < 2; i++) {
+            Check.due("tired", w.person(i, 2), 0);
+            Check.due("load", w.person(i, 3), 0);
+            for (int what = 0; what < 4; what++) {
+                Check.due("field " + i + " " + what, w.field(i, what), other.field(i, what));
+            }
+            Check.due("haul " + i, w.haul(i, 1), other.haul(i, 1));
+            Check.due("look " + i, w.look(i), other.look(i));
+            Check.due("fits " + i, w.fits(i), other.fits(i));
+            Check.due("freest " + i, w.freest(i), other.freest(i));
+            Check.due("harp " + i, w.harp(i), other.harp(i));
+            Check.due("next " + i, w.next(i), other.next(i));
+        }
+        for (int what = 0; what < 4; what++) {
+            Check.due("autumn " + what, w.autumn(11, 4, 30, what), other.autumn(11, 4, 30, what));
+        }
+        Check.due("stuck", w.stuck(), 0);
+        Check.due("moved", w.moved(), 0);
+        Check.due("parts", w.parts(0), 1);
+        Check.due("tired together", w.ahead(0, 1), 0);
+        Check.missing("no second wire", () -> w.wire(1, 0));
+        Check.missing("no second thing", () -> w.thing(1, 0));
+        Check.missing("no third person", () -> w.person(2, 0));
+        Check.missing("no third field", () -> w.field(2, 0));
+        Check.wrong("no second bit", () -> w.grace(0, 2, 1));
+        Check.due("no such thing in work", Check.work(w, "lift 0 1;"), -8);
     }
 }

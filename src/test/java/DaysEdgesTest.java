@@ -62,10 +62,13 @@ public final class DaysEdgesTest {
             Check.due("carried by none", w.thing(i, 2), -1);
         }
         // and so again behind another country, whatever was done
-        step(w, "lift 0 0;cross 0 0;cross 1 1;move 1 1;cut 2;hour;", 6, 0);
+        Check.law(w, "20");
+        step(w, "lift 0 0;cross 0 0;cross 1 1;cross 2 0;move 1 1;cut 2;hour;", 7, 0);
         Check.country(w, LAND);
         Check.due("hour anew", w.told(4), 0);
-        Check.due("tired anew", w.person(0, 2), 0);
+        for (int i = 0; i < 3; i++) {
+            Check.due("tired anew", w.person(i, 2), 0);
+        }
         Check.due("place anew", w.person(0, 1), 0);
         Check.due("thing anew", w.thing(0, 1), 0);
         Check.due("carried anew", w.thing(0, 2), -1);

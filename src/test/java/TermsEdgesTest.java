@@ -410,6 +410,7 @@ public final class TermsEdgesTest {
         work("lift 0 1;", 0);
         noWork("lift 1 0;", 2, 5);
         noWork("lift 0 2;", 2, 7);
+        work("set 0 0;set 0 1;", 0);
         noWork("set 1 0;", 2, 4);
         noWork("set 0 2;", 2, 6);
         work("cross 0 0;", 1);
@@ -471,6 +472,7 @@ public final class TermsEdgesTest {
         noBook("40 12;0 0;1 0;2 0;3 0;4 0;5 0;6 0;7 0;", 3, 34);
         noBook("40 12;0 0;1 0;2 0;3 0;4 0;5 0;6 0; 7", 3, 35);
         noBook("40 12;0 0;1 0;2 0;3 0;4 0;5 0;6 0;7 13;", 3, 34);
+        noBook("7 12;0 0;1 0;2 0;3 0;4 0;5 0;6 0;40 0;", 3, 33);
     }
 
     private static void bookNoHourTwice() {
@@ -507,6 +509,9 @@ public final class TermsEdgesTest {
         noCountry("fields 2;wire 0 4294967297 5;", 2, 16);
         noCountry("fields 2;wire 0 1 2147483648;", 2, 18);
         noCountry("fields 1 8;", 1, 9);
+        noLaw("1/", 1, 2);
+        noLaw("1:", 1, 1);
+        toll("0+9", 9);
         noBook("1" + "0".repeat(50) + " 1;", 2, 0);
         work("move 0 " + "0".repeat(130) + "20;", 1);
         noWork("cut 4294967296;", 2, 4);
@@ -520,6 +525,11 @@ public final class TermsEdgesTest {
         noCountry("fiel ds 2;", 1, 0);
         noCountry("Fields 2;", 1, 0);
         noCountry("fieldS 2;", 1, 0);
+        noCountry("gields 2;", 1, 0);
+        noCountry("nliers 2;", 1, 0);
+        noLaw("road", 1, 0);
+        noLaw("host[1,2]", 1, 0);
+        noWork("four;", 1, 0);
         noCountry("things 0 1;", 1, 0);
         noCountry("a;", 1, 0);
         noCountry("z;", 1, 0);
@@ -527,6 +537,10 @@ public final class TermsEdgesTest {
         noWork("hourhour;", 1, 0);
         noWork("cut0;cutt 0;", 1, 5);
         noLaw("leastmost[1,2]", 1, 0);
+        noLaw("loada", 1, 0);
+        noLaw("loadz", 1, 0);
+        noLaw("load{", 1, 4);
+        noLaw("load`", 1, 4);
         toll("2*load/load", 2);
     }
 
