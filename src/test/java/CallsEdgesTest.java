@@ -51,6 +51,7 @@ public final class CallsEdgesTest {
         count();
         fullCountry();
         smallerBehindTheFull();
+        fiveHundredAndTwelveCalls();
         Check.end();
     }
 
@@ -1043,5 +1044,33 @@ public final class CallsEdgesTest {
         Check.missing("no third field", () -> w.field(2, 0));
         Check.wrong("no second bit", () -> w.grace(0, 2, 1));
         Check.due("no such thing in work", Check.work(w, "lift 0 1;"), -8);
+    }
+
+    // "An object is used for at most 512 calls after it has been made"
+
+    private static void fiveHundredAndTwelveCalls() {
+        DeadWires w = new DeadWires();
+        for (int i = 0; i < 511; i++) {
+            Check.wrong("told", () -> w.told(12));
+        }
+        Check.due("the 512th call", w.status(1), 511);
+        // works done and undone, images kept and brought back, over and over
+        DeadWires x = Check.land("fields 2;wire 0 1 9;thing 0 1;person 0 9;");
+        for (int i = 0; i < 50; i++) {
+            Check.due("image", x.image(), 1);
+            Check.due("work", Check.work(x, "lift 0 0;cross 0 0;hour;"), 3);
+            Check.due("undo", x.undo(), 0);
+            Check.due("work", Check.work(x, "cut 0;hour;"), 2);
+            Check.due("restore", x.restore(), 0);
+            Check.due("hour", x.told(4), 0);
+        }
+        DeadWires y = new DeadWires();
+        for (int i = 0; i < 30; i++) {
+            y.feed(0, 0, 0, 0, 0);
+        }
+        for (int i = 0; i < 481; i++) {
+            Check.due("feed", y.feed(i, i, i, i, i), -1);
+        }
+        Check.due("the tape", y.count(1), 600);
     }
 }
