@@ -42,13 +42,15 @@ public final class ModelTest {
         boolean same = text("country", land());
         while (same && calls < CALLS - 40) {
             int kind = random.nextInt(100);
-            if (kind < 2) {
-                same = text("country", spoilt(land()));
+            if (kind < 4) {
+                same = soup();
             } else if (kind < 6) {
+                same = text("country", spoilt(land()));
+            } else if (kind < 10) {
                 same = text("law", spoilt(sum(0, 3)));
-            } else if (kind < 20) {
+            } else if (kind < 24) {
                 same = text("work", spoilt(steps(0)));
-            } else if (kind < 23) {
+            } else if (kind < 27) {
                 same = text("book", spoilt(lines()));
             } else {
                 same = ask(NAMES[random.nextInt(NAMES.length)]);
@@ -270,6 +272,36 @@ public final class ModelTest {
             text.append(number(random.nextInt(41))).append(number(random.nextInt(5))).append(";");
         }
         return text.toString();
+    }
+
+    /** A text near its limits, with words, numbers and signs behind it as they come: mostly for where faults lie. */
+    private boolean soup() throws Exception {
+        String[] kinds = {"country", "law", "work", "book"};
+        String kind = kinds[random.nextInt(4)];
+        StringBuilder text = new StringBuilder();
+        if (kind.equals("country")) {
+            text.append("fields 8;").append("pliers 1;".repeat(chance(2) ? 57 + random.nextInt(4) : 0));
+            text.append("thing 0 1;".repeat(chance(3) ? 4 + random.nextInt(3) : 0));
+        } else if (kind.equals("law")) {
+            text.append("(".repeat(random.nextInt(6))).append("least[".repeat(random.nextInt(3)));
+        } else if (kind.equals("work")) {
+            text.append("again 2[".repeat(random.nextInt(8)));
+        } else {
+            int lines = random.nextInt(10);
+            for (int i = 0; i < lines; i++) {
+                text.append(i * 5).append(" 1;");
+            }
+        }
+        String[] parts = {"fields", "wire", "thing", "person", "pliers", "lift", "set", "cross", "move", "cut", "hour", "again",
+            "load", "strong", "tired", "left", "wires", "least", "most", "x", "0", "1", "2", "5", "8", "9", "12", "13", "20",
+            "21", "30", "31", "40", "41", "99", "100", "999", "1000", ";", ";", ";", "[", "]", "(", ")", ",", "+", "-", "*",
+            "/", "%", " ", "&"};
+        int many = random.nextInt(12);
+        for (int i = 0; i < many; i++) {
+            text.append(chance(3) ? "" : " ").append(parts[random.nextInt(parts.length)]);
+        }
+        int most = kind.equals("country") ? 600 : kind.equals("book") ? 60 : 150;
+        return text(kind, text.substring(0, Math.min(most, text.length())));
     }
 
     /** Now and then a text with something wrong in it. */
