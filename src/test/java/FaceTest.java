@@ -2,9 +2,17 @@ import java.lang.reflect.Constructor;
 import java.lang.reflect.Field;
 import java.lang.reflect.Method;
 import java.lang.reflect.Modifier;
+import java.nio.charset.StandardCharsets;
+import java.nio.file.Files;
+import java.nio.file.Path;
 import java.util.TreeSet;
+import java.util.regex.Matcher;
+import java.util.regex.Pattern;
 
-/** The public face is the document's and nothing more; a new object (promise 1) is a country without clauses. */
+/**
+ * The public face is the document's and nothing more; a new object (promise 1) is a country without clauses.
+ * The document's path is the argument.
+ */
 public final class FaceTest {
     private static final String[] FACE = {
         "int feed(int,int,int,int,int)", "int country(int)", "int law(int)", "int work(int)", "int book(int)",
@@ -17,8 +25,9 @@ public final class FaceTest {
         "int freest(int)", "int autumn(int,int,int,int)", "int span(int,int,int,int,int,int)", "int image()",
         "int restore()", "int status(int)", "int count(int)"};
 
-    public static void main(String[] args) {
+    public static void main(String[] args) throws Exception {
         methodsAreTheDocuments();
+        writtenAsInTheDocument(Path.of(args.length > 0 ? args[0] : "../shared/DOC.md"));
         nothingElseIsSeen();
         newObject();
         Check.end();
@@ -55,6 +64,23 @@ public final class FaceTest {
                 Check.due(method + " bears a public name", publicNames.contains(method.getName()) ? 1 : 0, 0);
             }
         }
+    }
+
+    /** To the letter, so that names of parameters and what is thrown are the document's, too. */
+    private static void writtenAsInTheDocument(Path document) throws Exception {
+        String doc = Files.readString(document, StandardCharsets.UTF_8);
+        String source = Files.readString(Path.of("src/main/java/DeadWires.java"), StandardCharsets.UTF_8);
+        String written = source.replaceAll("\\s+", " ");
+        Matcher face = Pattern.compile("^    (public [^;]+);$", Pattern.MULTILINE).matcher(doc);
+        int seen = 0;
+        while (face.find()) {
+            String due = face.group(1);
+            boolean constant = due.contains("=");
+            Check.due(due + ": is written so", written.contains(due + (constant ? ";" : " {")) ? 1 : 0, 1);
+            seen++;
+        }
+        // a constant, the constructor, the methods
+        Check.due("lines of the document's face", seen, 2 + FACE.length);
     }
 
     private static void nothingElseIsSeen() {
